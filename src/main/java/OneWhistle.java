@@ -27,8 +27,8 @@ public final class OneWhistle {
     private static final int SETS = 1 << MOST_PLACES;
 
     /**
-     * How a dog goes depends on how many whistles were ahead, but from the third on only on whether they are
-     * odd, as no dog learns later than that: so the times fall into so few phases.
+     * How a dog goes depends on how many whistles were ahead; from 3 on only on whether they are odd, as no dog
+     * learns later than that: so the times 0, 1, 2, the odd ones from 3 and the even ones from 4 are all the phases.
      */
     private static final int PHASES = 5;
     private static final int FIRST_STEADY = 3;
@@ -199,7 +199,7 @@ public final class OneWhistle {
             return refusedBad(BAD_SOUGHT);
         }
         chase.follow(hill, dogs, hill.shutBits);
-        return shortest(what);
+        return chase.seek(1, 1) ? chase.shortest(what) : NONE;
     }
 
     public int quiet(int dogs) {
@@ -207,7 +207,7 @@ public final class OneWhistle {
             return refusedBad(BAD);
         }
         chase.follow(hill, dogs, hill.shutBits);
-        return chase.seek(hill.breath0, hill.breath1) ? chase.foundBreath : NONE;
+        return chase.seek(hill.breath0, hill.breath1) ? chase.leastBreathFound() : NONE;
     }
 
     public int apart(int dog) {
@@ -256,7 +256,7 @@ public final class OneWhistle {
         }
         chase.follow(hill, dogs, hill.shutBits);
         chase.addLane(stranger, hill, hill.shutBits, 1 << place, 1 << place);
-        return shortest(what);
+        return chase.seek(1, 1) ? chase.shortest(what) : NONE;
     }
 
     // ---- barks
@@ -424,14 +424,6 @@ public final class OneWhistle {
             default:
                 return false;
         }
-    }
-
-    private int shortest(int what) {
-        if (!chase.seek(1, 1)) {
-            return NONE;
-        }
-        // With a breath of 1 each, the breath is how many whistles there are.
-        return what == 0 ? chase.foundBreath : chase.foundTune;
     }
 
     private static boolean isTune(int tune, int n) {
@@ -940,18 +932,16 @@ public final class OneWhistle {
         private final int[] steps = new int[PHASES * 2 * SETS];
         /** By time and set: at which times (bits) some tune can have brought it to its target. */
         private final int[] ends = new int[(LONGEST_TUNE + 1) * SETS];
-        /** By phase and set: whether dogs from all of its places can ever be in one. */
-        private final boolean[] meetings = new boolean[PHASES * SETS];
+        /** By phase: the sets (a bit each) from all of whose places a dog can come to one place. */
+        private final int[] meetings = new int[PHASES];
         private int setCount = 0;
-        private boolean heedsOdd = false;
 
         void learn(Plain dog, int placeCount, int shutBits) {
-            setCount = 1 << placeCount;
-            heedsOdd = dog.heedsOdd();
+            setCount = Math.min(1 << placeCount, SETS);
             for (int phase = 0; phase < PHASES; phase++) {
                 for (int whistle = 0; whistle < 2; whistle++) {
                     int row = rowOf(phase, whistle);
-                    for (int place = 0; place < placeCount; place++) {
+                    for (int place = 0; place < placeCount && place < MOST_PLACES; place++) {
                         // A phase is one of its own times.
                         steps[row + (1 << place)] = 1 << dog.next(place, whistle, phase, shutBits);
                     }
@@ -972,7 +962,8 @@ public final class OneWhistle {
         }
 
         int behind(int t, int whistle, int set) {
-            return steps[rowOf(phaseOf(t), whistle) + set];
+            int i = rowOf(phaseOf(t), whistle) + set;
+            return i >= 0 && i < steps.length ? steps[i] : 0;
         }
 
         void findEnds(int target) {
@@ -993,15 +984,16 @@ public final class OneWhistle {
         }
 
         int endsFrom(int t, int set) {
-            return ends[t * SETS + set];
+            int i = t * SETS + set;
+            return i >= 0 && i < ends.length ? ends[i] : 0;
         }
 
         void findMeetings() {
-            for (int phase = 0; phase < PHASES; phase++) {
-                for (int set = 0; set < setCount; set++) {
-                    meetings[phase * SETS + set] = Integer.bitCount(set) == 1;
-                }
+            int single = 0;
+            for (int set = 1; set < setCount; set++) {
+                single |= Integer.bitCount(set) == 1 ? 1 << set : 0;
             }
+            Arrays.fill(meetings, single);
             boolean grown = true;
             // Each round but the last adds a set at least, so there are no more rounds than sets.
             for (int round = 0; round <= PHASES * SETS && grown; round++) {
@@ -1012,20 +1004,20 @@ public final class OneWhistle {
         private boolean growMeetings() {
             boolean grown = false;
             for (int phase = PHASES - 1; phase >= 0; phase--) {
-                int later = phaseOf(phase + 1) * SETS;
+                int before = meetings[phase];
+                int later = meetings[phaseOf(phase + 1)];
                 for (int set = 1; set < setCount; set++) {
-                    boolean joins = meetings[later + behind(phase, 0, set)] || meetings[later + behind(phase, 1, set)];
-                    if (joins && !meetings[phase * SETS + set]) {
-                        meetings[phase * SETS + set] = true;
-                        grown = true;
+                    if (holds(later, behind(phase, 0, set)) || holds(later, behind(phase, 1, set))) {
+                        meetings[phase] |= 1 << set;
                     }
                 }
+                grown |= meetings[phase] != before;
             }
             return grown;
         }
 
         boolean canMeet(int place, int other) {
-            return meetings[(1 << place) | (1 << other)];
+            return holds(meetings[0], (1 << place) | (1 << other));
         }
     }
 
@@ -1036,15 +1028,13 @@ public final class OneWhistle {
      * It goes time by time over what is called a pack: the sets of all lanes, 5 bits each.
      */
     private static final class Chase {
-        private static final int UNFOUND = 1 << 20;
         private static final int PACK_BITS = MOST_PLACES * MOST_DOGS;
-        /** No time has more: 31 * 31 * 31 packs, each reached again at most by two. */
+        /** No time has more: 31 * 31 * 31 packs, each leading to two. */
         private static final int MOST_ENTRIES = 1 << 16;
         private static final int FIRST_ENTRIES = 32;
-        private static final int BREATH_BITS = 8;
-        private static final int MOST_SEARCHES = 1 << 20;
 
         private final Lane[] lanes = {new Lane(), new Lane(), new Lane()};
+        private final Seen seen = new Seen();
         private int laneCount = 0;
         private int startPack = 0;
         private boolean heedsOdd = false;
@@ -1053,13 +1043,10 @@ public final class OneWhistle {
         private long[] entries = new long[FIRST_ENTRIES];
         private long[] later = new long[FIRST_ENTRIES];
         private int laterCount = 0;
-        /** By pack (and odd time): the number of the search that came there last, and its least breath. */
-        private int[] known = new int[0];
-        private int searches = 0;
 
         private int leastBreath = 1;
-        int foundBreath = UNFOUND;
-        int foundTune = 0;
+        private int foundBreath = Seen.UNSEEN;
+        private int foundTune = 0;
 
         /** The dogs of the set from everywhere to the goal, with these places shut. */
         void follow(Hill hill, int dogs, int shutBits) {
@@ -1082,48 +1069,45 @@ public final class OneWhistle {
             lane.learn(dog, hill.placeCount, shutBits);
             lane.findEnds(target);
             startPack |= start << (MOST_PLACES * laneCount);
-            heedsOdd |= lane.heedsOdd;
+            heedsOdd |= dog.heedsOdd();
             laneCount++;
         }
 
-        /** Whether there is such a tune; its breath and itself are found then. */
+        /** Whether there is such a tune. */
         boolean seek(int breath0, int breath1) {
-            prepare();
+            seen.forget();
             leastBreath = Math.min(breath0, breath1);
+            foundBreath = Seen.UNSEEN;
+            foundTune = 0;
+            laterCount = 0;
             offer(0, startPack, 0, 0);
             for (int t = 0; t < LONGEST_TUNE && laterCount > 0; t++) {
                 int entryCount = laterCount;
-                long[] swapped = entries;
+                long[] emptied = entries;
                 entries = later;
-                later = swapped;
+                later = emptied;
                 laterCount = 0;
-                for (int i = 0; i < entryCount; i++) {
+                for (int i = 0; i < entryCount && i < entries.length; i++) {
                     whistleOn(t, entries[i], breath0, breath1);
                 }
             }
-            return foundBreath != UNFOUND;
+            return foundBreath != Seen.UNSEEN;
         }
 
-        private void prepare() {
-            foundBreath = UNFOUND;
-            foundTune = 0;
-            laterCount = 0;
-            int size = 2 << (MOST_PLACES * laneCount);
-            if (known.length < size) {
-                known = new int[size];
-            }
-            if (searches >= MOST_SEARCHES) {
-                Arrays.fill(known, 0);
-                searches = 0;
-            }
-            searches++;
+        int leastBreathFound() {
+            return foundBreath;
+        }
+
+        /** Behind a search with a breath of 1 each, where the breath is how many whistles there are. */
+        int shortest(int what) {
+            return what == 0 ? foundBreath : foundTune;
         }
 
         private void whistleOn(int t, long entry, int breath0, int breath1) {
             int pack = (int) entry & ((1 << PACK_BITS) - 1);
             int tune = (int) (entry >> PACK_BITS) & ((1 << LONGEST_TUNE) - 1);
             int breath = (int) (entry >> (PACK_BITS + LONGEST_TUNE));
-            if (t >= FIRST_STEADY && breath > leastKnown(knownIndex(t, pack))) {
+            if (t >= FIRST_STEADY && breath > seen.leastFor(keyOf(t, pack))) {
                 return;
             }
             offer(t + 1, packBehind(t, 0, pack), tune, breath + breath0);
@@ -1145,7 +1129,7 @@ public final class OneWhistle {
             for (int i = 0; i < laneCount; i++) {
                 ends &= lanes[i].endsFrom(t, (pack >> (MOST_PLACES * i)) & (SETS - 1));
             }
-            // Each dog alone tells when it can be at its target; if they have no such time in common, none has.
+            // Each dog alone tells when it can be at its target; without a time in common they never are together.
             if (ends == 0) {
                 return;
             }
@@ -1156,27 +1140,14 @@ public final class OneWhistle {
             if (whistlesLeft == 0) {
                 foundBreath = breath;
                 foundTune = tune;
-            } else if (t < FIRST_STEADY || isBetter(knownIndex(t, pack), breath)) {
+            } else if (t < FIRST_STEADY || seen.isLess(keyOf(t, pack), breath)) {
                 keep(pack, tune, breath);
             }
         }
 
-        private int knownIndex(int t, int pack) {
+        /** Times of one key are alike for these dogs: who came there earlier, with no more breath, can do as much. */
+        private int keyOf(int t, int pack) {
             return 2 * pack + (heedsOdd ? t & 1 : 0);
-        }
-
-        private int leastKnown(int index) {
-            boolean isKnown = index < known.length && known[index] >> BREATH_BITS == searches;
-            return isKnown ? known[index] & ((1 << BREATH_BITS) - 1) : UNFOUND;
-        }
-
-        /** A pack come to earlier with no more breath can do all that it can do now. */
-        private boolean isBetter(int index, int breath) {
-            if (index >= known.length || breath >= leastKnown(index)) {
-                return false;
-            }
-            known[index] = (searches << BREATH_BITS) | breath;
-            return true;
         }
 
         private void keep(int pack, int tune, int breath) {
@@ -1188,6 +1159,83 @@ public final class OneWhistle {
             }
             later[laterCount] = ((((long) breath << LONGEST_TUNE) | tune) << PACK_BITS) | pack;
             laterCount++;
+        }
+    }
+
+    /** The least breath that a search had at each key; hashed, as it comes to few of the keys that there are. */
+    private static final class Seen {
+        static final int UNSEEN = 1 << 20;
+
+        private static final int KEY_BITS = 16;
+        private static final int BREATH_BITS = 8;
+        private static final int FIRST_SLOTS = 64;
+        /** Twice as many as there are keys. */
+        private static final int MOST_SLOTS = 1 << (KEY_BITS + 1);
+
+        /** A slot has its breath in the lowest bits, then its key, then the number of the search. */
+        private long[] slots = new long[FIRST_SLOTS];
+        private int used = 0;
+        private long search = 0;
+
+        /** What an earlier search wrote counts as empty, so that nothing need be wiped. */
+        void forget() {
+            search++;
+            used = 0;
+        }
+
+        int leastFor(int key) {
+            long slot = slots[slotFor(key)];
+            return isOurs(slot) ? breathOf(slot) : UNSEEN;
+        }
+
+        /** Whether it is less than what was there, and then keeps it. */
+        boolean isLess(int key, int breath) {
+            int i = slotFor(key);
+            boolean isNew = !isOurs(slots[i]);
+            if (!isNew && breath >= breathOf(slots[i])) {
+                return false;
+            }
+            slots[i] = (((search << KEY_BITS) | key) << BREATH_BITS) | breath;
+            if (isNew) {
+                used++;
+                grow();
+            }
+            return true;
+        }
+
+        private boolean isOurs(long slot) {
+            return slot >> (KEY_BITS + BREATH_BITS) == search;
+        }
+
+        private static int breathOf(long slot) {
+            return (int) slot & ((1 << BREATH_BITS) - 1);
+        }
+
+        private static int keyOf(long slot) {
+            return (int) (slot >> BREATH_BITS) & ((1 << KEY_BITS) - 1);
+        }
+
+        /** Where the key is, or else the empty slot where it belongs; half of the slots are always empty. */
+        private int slotFor(int key) {
+            int mask = slots.length - 1;
+            int i = (key * 40503 >>> 4) & mask;
+            for (int tried = 0; tried < mask && isOurs(slots[i]) && keyOf(slots[i]) != key; tried++) {
+                i = (i + 1) & mask;
+            }
+            return i;
+        }
+
+        private void grow() {
+            if (2 * used <= slots.length || slots.length >= MOST_SLOTS) {
+                return;
+            }
+            long[] old = slots;
+            slots = new long[2 * old.length];
+            for (int i = 0; i < old.length; i++) {
+                if (isOurs(old[i])) {
+                    slots[slotFor(keyOf(old[i]))] = old[i];
+                }
+            }
         }
     }
 
@@ -1215,7 +1263,8 @@ public final class OneWhistle {
         }
 
         int fewestFor(int t, int set) {
-            return fewest[t * SETS + set];
+            int i = t * SETS + set;
+            return i >= 0 && i < fewest.length ? fewest[i] : NEVER;
         }
 
         private int neededBy(Lane lane, int t, int whistle, int set) {

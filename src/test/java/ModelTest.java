@@ -19,7 +19,7 @@ public final class ModelTest {
 
     public static void main(String[] args) {
         long seed = args.length > 0 ? Long.parseLong(args[0]) : 1;
-        int runs = args.length > 1 ? Integer.parseInt(args[1]) : 120;
+        int runs = args.length > 1 ? Integer.parseInt(args[1]) : 200;
         for (int i = 0; i < runs && wrong < 20; i++) {
             oneRun(new Random(seed * 1_000_003 + i), i);
         }
@@ -39,7 +39,7 @@ public final class ModelTest {
             if (call.equals("places") && random.nextInt(4) != 0) {
                 continue;
             }
-            if (call.equals("shuts") && random.nextInt(3) != 0) {
+            if (call.equals("shuts") && random.nextInt(2) != 0) {
                 continue;
             }
             if (call.equals("text")) {
