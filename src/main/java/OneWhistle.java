@@ -1082,11 +1082,7 @@ public final class OneWhistle {
             laterCount = 0;
             offer(0, startPack, 0, 0);
             for (int t = 0; t < LONGEST_TUNE && laterCount > 0; t++) {
-                int entryCount = laterCount;
-                long[] emptied = entries;
-                entries = later;
-                later = emptied;
-                laterCount = 0;
+                int entryCount = takeLater(t);
                 for (int i = 0; i < entryCount && i < entries.length; i++) {
                     whistleOn(t, entries[i], breath0, breath1);
                 }
@@ -1103,15 +1099,45 @@ public final class OneWhistle {
             return what == 0 ? foundBreath : foundTune;
         }
 
-        private void whistleOn(int t, long entry, int breath0, int breath1) {
-            int pack = (int) entry & ((1 << PACK_BITS) - 1);
-            int tune = (int) (entry >> PACK_BITS) & ((1 << LONGEST_TUNE) - 1);
-            int breath = (int) (entry >> (PACK_BITS + LONGEST_TUNE));
-            if (t >= FIRST_STEADY && breath > seen.leastFor(keyOf(t, pack))) {
-                return;
+        /**
+         * What was come to at this time is to go on from, but for what was come to with less breath at the same time.
+         * That is told ahead of the next time's first offer: who comes later with less breath has fewer whistles left,
+         * and so can not stand for who was there earlier.
+         */
+        private int takeLater(int t) {
+            long[] emptied = entries;
+            entries = later;
+            later = emptied;
+            int kept = 0;
+            for (int i = 0; i < laterCount && i < entries.length; i++) {
+                long entry = entries[i];
+                if (t < FIRST_STEADY || breathOf(entry) <= seen.leastFor(keyOf(t, packOf(entry)))) {
+                    entries[kept] = entry;
+                    kept++;
+                }
             }
+            laterCount = 0;
+            return kept;
+        }
+
+        private void whistleOn(int t, long entry, int breath0, int breath1) {
+            int pack = packOf(entry);
+            int tune = tuneOf(entry);
+            int breath = breathOf(entry);
             offer(t + 1, packBehind(t, 0, pack), tune, breath + breath0);
             offer(t + 1, packBehind(t, 1, pack), tune | (1 << t), breath + breath1);
+        }
+
+        private static int packOf(long entry) {
+            return (int) entry & ((1 << PACK_BITS) - 1);
+        }
+
+        private static int tuneOf(long entry) {
+            return (int) (entry >> PACK_BITS) & ((1 << LONGEST_TUNE) - 1);
+        }
+
+        private static int breathOf(long entry) {
+            return (int) (entry >> (PACK_BITS + LONGEST_TUNE));
         }
 
         private int packBehind(int t, int whistle, int pack) {

@@ -502,11 +502,32 @@ public final class PromisesTest {
         limit.put(3, 5);
         // The only tune of 16 has 12 of whistle 0 and 4 of whistle 1.
         due("quiet(1)", limit.quiet(1), 12 * 9 + 4 * 5);
+        quietByTwenty();
         due("quiet of none", hill(2, "ba", "ba").quiet(1), OneWhistle.NONE);
         due("quiet(2)", x.quiet(2), OneWhistle.BAD);
         due("quiet(-1)", x.quiet(-1), OneWhistle.BAD);
         due("quiet(8)", x.quiet(8), OneWhistle.BAD);
         status(x, 3, 0, 0);
+    }
+
+    /** Who comes to the same places later with less breath must not stand for who still has time to come to the goal. */
+    private static void quietByTwenty() {
+        OneWhistle two = new OneWhistle();
+        two.dog(0, 10499, 17475);
+        two.dog(0, 5249, 2059);
+        two.put(0, 3);
+        two.put(3, 3);
+        due("quiet by a tune of 20", two.quiet(3), 9 + 11 * 3);
+        tamed(two, 3, 20, 713436);
+        due("one dog behind it", two.meets(0, 713436, 20), 1 << 3);
+        due("the other one behind it", two.meets(1, 713436, 20), 1 << 3);
+        OneWhistle three = new OneWhistle();
+        three.places(4);
+        three.dog(0, 1227, 83);
+        three.dog(0, 1043, 1089);
+        three.dog(0, 209, 1034);
+        three.put(3, 3);
+        due("quiet of three dogs by a tune of 20", three.quiet(7), 11 + 9 * 3);
     }
 
     private static void apart() {
