@@ -1,60 +1,5 @@
 /** Each promise of the document by small cases that were worked out by hand: ordinary ones, edges and wrong ones. */
-public final class PromisesTest {
-    private static int wrong = 0;
-    private static int promise = 0;
-
-    private static void due(String what, long got, long want) {
-        if (got != want) {
-            wrong++;
-            System.out.println("promise " + promise + ": " + what + " answered " + got + ", due is " + want);
-        }
-    }
-
-    /** A row as a number to the base 8, from letters as in a hill's text. */
-    private static int row(String letters) {
-        int row = 0;
-        for (int i = letters.length() - 1; i >= 0; i--) {
-            row = 8 * row + letters.charAt(i) - 'a';
-        }
-        return row;
-    }
-
-    private static void type(OneWhistle x, String text) {
-        for (int i = 0; i < text.length(); i++) {
-            due("type of a byte", x.type(text.charAt(i), 1), i + 1);
-        }
-    }
-
-    private static int read(OneWhistle x, String text) {
-        x.clear();
-        type(x, text);
-        return x.read();
-    }
-
-    /** A new object with that many places and plain dogs of two rows each. */
-    private static OneWhistle hill(int n, String... rows) {
-        OneWhistle x = new OneWhistle();
-        x.places(n);
-        for (int i = 0; i + 1 < rows.length; i += 2) {
-            x.dog(0, row(rows[i]), row(rows[i + 1]));
-        }
-        return x;
-    }
-
-    private static long digestOf(long... values) {
-        long h = 661;
-        for (long v : values) {
-            h = 31 * h + v;
-        }
-        return h;
-    }
-
-    private static void status(OneWhistle x, int bad, int no, int full) {
-        due("status(0)", x.status(0), bad);
-        due("status(1)", x.status(1), no);
-        due("status(2)", x.status(2), full);
-    }
-
+public final class PromisesTest extends Checks {
     public static void main(String[] args) {
         newObject();
         places();
@@ -78,10 +23,7 @@ public final class PromisesTest {
         images();
         statusAndCount();
         digest();
-        System.out.println(wrong == 0 ? "the promises hold" : wrong + " answers are not as due");
-        if (wrong != 0) {
-            System.exit(1);
-        }
+        close("the promises hold");
     }
 
     private static void newObject() {

@@ -1,3 +1,5 @@
+import com.sun.management.ThreadMXBean;
+import java.lang.management.ManagementFactory;
 import java.lang.reflect.Constructor;
 import java.lang.reflect.Field;
 import java.lang.reflect.Method;
@@ -38,6 +40,7 @@ public final class RulesTest {
         checkFace();
         checkSource(Files.readString(Path.of("src/main/java/OneWhistle.java")));
         checkNothingThrows();
+        checkRoom();
         System.out.println(wrong == 0 ? "the rules are kept" : wrong + " rules are broken");
         if (wrong != 0) {
             System.exit(1);
@@ -132,6 +135,34 @@ public final class RulesTest {
             } catch (RuntimeException | Error thrown) {
                 check(false, "run " + run + " threw " + thrown + " behind " + log);
             }
+        }
+    }
+
+    /** A run of the dearest calls stays far below the room that all runs share, so that there is room for many. */
+    private static void checkRoom() {
+        ThreadMXBean threads = (ThreadMXBean) ManagementFactory.getThreadMXBean();
+        long self = Thread.currentThread().getId();
+        // The first object brings in the classes.
+        dearRun();
+        long before = threads.getThreadAllocatedBytes(self);
+        dearRun();
+        long made = threads.getThreadAllocatedBytes(self) - before;
+        check(made < 1_000_000, "a run made " + made + " bytes");
+    }
+
+    private static void dearRun() {
+        OneWhistle x = new OneWhistle();
+        x.dog(0, 10499, 17475);
+        x.dog(0, 5249, 2059);
+        x.pup(3, 2257, 4681, 2257, 13376, 3);
+        x.type(0x706c616365732035L, 8);
+        x.type(';', 1);
+        for (int call = 6; call + 5 <= 512; call += 5) {
+            x.image(0);
+            x.quiet(7);
+            x.shuts(7);
+            x.read();
+            x.from(0);
         }
     }
 
