@@ -15,6 +15,7 @@ public final class LimitsTest extends Checks {
 
     public static void main(String[] args) {
         tunesOfEachKind();
+        tunesOfTwoKinds();
         tunesOfNoDogs();
         neighboursOfTwenty();
         neighboursOfNone();
@@ -81,6 +82,36 @@ public final class LimitsTest extends Checks {
                 }
             }
         }
+    }
+
+    /** A dog that goes to the goal at each whistle changes nothing, whether it comes first or last. */
+    private static void tunesOfTwoKinds() {
+        for (int n = 2; n <= 4; n++) {
+            for (int kind : new int[] {1, 4}) {
+                for (int goal = 0; goal < n; goal++) {
+                    OneWhistle alone = ofKind(kind, n);
+                    alone.put(0, goal);
+                    OneWhistle last = ofKind(kind, n);
+                    last.put(0, goal);
+                    OneWhistle first = hill(n);
+                    first.put(0, goal);
+                    int home = row("aaaa".replace('a', (char) ('a' + goal)).substring(0, n));
+                    last.dog(0, home, home);
+                    first.dog(0, home, home);
+                    first.dog(kind, row(TURNED[n]), row(MOVED[n]));
+                    asAlone(alone, last);
+                    asAlone(alone, first);
+                }
+            }
+        }
+    }
+
+    private static void asAlone(OneWhistle alone, OneWhistle both) {
+        promise = 13;
+        due("tame(3, 0)", both.tame(3, 0), alone.tame(1, 0));
+        due("tame(3, 1)", both.tame(3, 1), alone.tame(1, 1));
+        promise = 14;
+        due("quiet(3)", both.quiet(3), alone.quiet(1));
     }
 
     /** A whistle 0 behind each whistle. */
@@ -354,6 +385,11 @@ public final class LimitsTest extends Checks {
         // By 0 it takes two more, by 1 one.
         told("1 is sooner", barking(4, 8, "bcda", "dbca"), 0, 3, 1, -1, 1);
         told("0 is as good as 1", barking(4, 8, "dbca", "dbca"), 0, 3, 1, -1, 0);
+        // What it learns counts from the second whistle on alone.
+        told("as it has not learnt", learningToBark("bbc", "abc", "aaa", "aaa"), 0, 5, 1, -1, 0);
+        told("as it has not learnt", learningToBark("abc", "bbc", "bbc", "abc"), 0, 5, 1, -1, 1);
+        told("too late, as 0 and 1 joined them", learningToBark("aba", "cbc", "bbc", "bbc"), 0, 5, -1, -1, -5);
+        told("as it has learnt", learningToBark("abc", "abc", "abc", "bbc"), 0, 5, 2, -1, 0);
         // The places that bark are told, those that do not are not.
         told("one of both", barking(4, 3, "acdc", "acdd"), 0, 15, -1, 0, -5);
     }
@@ -361,6 +397,14 @@ public final class LimitsTest extends Checks {
     private static OneWhistle barking(int n, int barks, String by0, String by1) {
         OneWhistle x = hill(n, by0, by1);
         x.put(1, barks);
+        return x;
+    }
+
+    /** Of three places 1 barks. */
+    private static OneWhistle learningToBark(String by0, String by1, String then0, String then1) {
+        OneWhistle x = hill(3);
+        x.pup(2, row(by0), row(by1), row(then0), row(then1), 1);
+        x.put(1, 2);
         return x;
     }
 

@@ -29,6 +29,7 @@ public final class TextEdgesTest extends Checks {
         }
         blanksWhereTokensPart();
         eachByte();
+        wordsThatAreNone();
         placesFirstAndOnce();
         dogsByNumber();
         lengthsOfTexts();
@@ -211,6 +212,28 @@ public final class TextEdgesTest extends Checks {
     }
 
     // ---- items
+
+    /** Each word with one letter changed, left out or put in is none. */
+    private static void wordsThatAreNone() {
+        String[] items = {"shut 1;", "goal 1;", "barks 1;", "breath 0 1;", "dog 0 ab ab;"};
+        oneLetterOff("", "places", " 2;");
+        for (String item : items) {
+            int end = item.indexOf(' ');
+            oneLetterOff("places 2;", item.substring(0, end), item.substring(end));
+        }
+    }
+
+    private static void oneLetterOff(String ahead, String word, String behind) {
+        for (int i = 0; i <= word.length(); i++) {
+            String front = ahead + word.substring(0, i);
+            String rest = word.substring(i);
+            fault(front + "z" + rest + behind, ahead.length());
+            if (!rest.isEmpty()) {
+                fault(front + rest.substring(1) + behind, ahead.length());
+                fault(front + "z" + rest.substring(1) + behind, ahead.length());
+            }
+        }
+    }
 
     private static void placesFirstAndOnce() {
         for (String ahead : new String[] {"shut 0;", "goal 0;", "barks 0;", "breath 0 1;", "dog 0 ab ab;", ";", "2;"}) {
