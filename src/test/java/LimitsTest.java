@@ -21,6 +21,8 @@ public final class LimitsTest extends Checks {
         neighboursOfNone();
         shutsOfEachKind();
         shutsOfAllOrNone();
+        goalThatIsShut();
+        allThatAreShut();
         pairsThatMeetLate();
         firstOfThosePairs();
         tellingsOfEight();
@@ -265,6 +267,55 @@ public final class LimitsTest extends Checks {
         due("none does", hill(5, "bbbbb", "bbbbb").shuts(1), OneWhistle.NONE);
         // One of 1 and 2 is enough: the least bits count.
         due("of like ones the least", hill(3, "baa", "caa").shuts(1), 2);
+    }
+
+    /** None comes to a goal that is shut, and who is there may leave it for ever. */
+    private static void goalThatIsShut() {
+        OneWhistle x = hill(3, "aaa", "baa");
+        promise = 13;
+        due("tame(1, 0)", x.tame(1, 0), 1);
+        x.shut(0, true);
+        due("tame(1, 0) with the goal shut", x.tame(1, 0), OneWhistle.NONE);
+        promise = 14;
+        due("quiet(1) with the goal shut", x.quiet(1), OneWhistle.NONE);
+        promise = 16;
+        due("shuts(1), by which it is not", x.shuts(1), 0);
+        promise = 17;
+        due("neighbour at the goal", x.neighbour(0, 0, 0, 0), 0);
+        promise = 10;
+        due("who is there stays", x.goes(0, 0, 0, 0), 0);
+        due("who is there leaves", x.goes(0, 0, 1, 0), 1);
+    }
+
+    /** With all places shut each dog of each kind stays for ever. */
+    private static void allThatAreShut() {
+        for (int kind = 0; kind <= 4; kind++) {
+            OneWhistle x = hill(4);
+            int turned = row(TURNED[4]);
+            if (kind == 2 || kind == 3) {
+                x.pup(kind, turned, turned, turned, turned, 1);
+            } else {
+                x.dog(kind, turned, turned);
+            }
+            for (int place = 0; place < 4; place++) {
+                x.shut(place, true);
+            }
+            x.put(1, 1);
+            promise = 10;
+            for (int place = 0; place < 4; place++) {
+                for (int t = 0; t < 4; t++) {
+                    due("goes", x.goes(0, place, t & 1, t), place);
+                }
+            }
+            promise = 13;
+            due("tame(1, 0)", x.tame(1, 0), OneWhistle.NONE);
+            promise = 15;
+            due("apart(0)", x.apart(0), 1);
+            told("all shut", x, 0, 15, -1, -1, -5);
+            chance("all shut", x, 12, 5, 1, 4);
+            promise = 20;
+            due("starts", x.starts(0, 0, 16, 0xffff), 1);
+        }
     }
 
     // ---- pairs
